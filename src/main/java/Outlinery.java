@@ -762,11 +762,43 @@ public final class Outlinery {
         private void read(int line, Reading reading) {
             begin(line);
             reading.forget();
-            if (takeAll(reading) && place == size) {
-                return;
+            boolean taken = false;
+            switch (peek()) {
+                case '*':
+                    reading.kind = HEADING;
+                    taken = takeHeading(reading);
+                    break;
+                case ':':
+                    reading.kind = PROPERTY;
+                    taken = takeProperty(reading);
+                    break;
+                case '@':
+                    reading.kind = DATE;
+                    taken = takeDate(reading);
+                    break;
+                case '%':
+                    reading.kind = CLOCK;
+                    taken = takeClock(reading);
+                    break;
+                case '|':
+                    reading.kind = ROW;
+                    taken = takeRow();
+                    break;
+                case '{':
+                    reading.kind = CODE;
+                    taken = takeCode(reading);
+                    break;
+                case '!':
+                    reading.kind = INCLUDE;
+                    taken = takeInclude(reading);
+                    break;
+                default:
+                    break;
             }
-            reading.kind = TEXT;
-            sums.forget(line);
+            if (!taken || place != size) {
+                reading.kind = TEXT;
+                sums.forget(line);
+            }
         }
 
         private void begin(int line) {
@@ -777,50 +809,6 @@ public final class Outlinery {
                 signs[i] = text.at(line, i);
             }
             sums.forget(line);
-        }
-
-        private boolean takeAll(Reading reading) {
-            reading.kind = kindOf(peek());
-            switch (reading.kind) {
-                case HEADING:
-                    return takeHeading(reading);
-                case PROPERTY:
-                    return takeProperty(reading);
-                case DATE:
-                    return takeDate(reading);
-                case CLOCK:
-                    return takeClock(reading);
-                case ROW:
-                    return takeRow();
-                case CODE:
-                    return takeCode(reading);
-                case INCLUDE:
-                    return takeInclude(reading);
-                default:
-                    return false;
-            }
-        }
-
-        /** The kind that a line can only be, besides TEXT, because of its first sign. */
-        private static int kindOf(char sign) {
-            switch (sign) {
-                case '*':
-                    return HEADING;
-                case ':':
-                    return PROPERTY;
-                case '@':
-                    return DATE;
-                case '%':
-                    return CLOCK;
-                case '|':
-                    return ROW;
-                case '{':
-                    return CODE;
-                case '!':
-                    return INCLUDE;
-                default:
-                    return TEXT;
-            }
         }
 
         private char peek() {
@@ -851,14 +839,15 @@ public final class Outlinery {
             return signs[place - 1] - '0';
         }
 
+        /** A number that begins with 0 has no other digits. */
         private int takeNumber() {
-            int number = takeDigit('0');
-            for (int i = 1; i < MOST_DIGITS && number > 0; i++) {
-                int digit = takeDigit('0');
-                if (digit == NONE) {
+            int number = NONE;
+            for (int i = 0; i < MOST_DIGITS && number != 0 && place >= 0 && place < size; i++) {
+                if (signs[place] < '0' || signs[place] > '9') {
                     break;
                 }
-                number = number * 10 + digit;
+                number = Math.max(0, number) * 10 + signs[place] - '0';
+                place++;
             }
             return number;
         }
@@ -1079,6 +1068,10 @@ public final class Outlinery {
             terms[line]++;
         }
 
+        private char joinOf(int term) {
+            return term >= 0 && term < joins.length ? joins[term] : 0;
+        }
+
         private void endCell(int line) {
             if (line < 0 || line >= MOST_LINES || cells[line] >= MOST_CELLS) {
                 return;
@@ -1087,16 +1080,13 @@ public final class Outlinery {
             cells[line]++;
         }
 
-        /** Where the terms of a cell begin: where those of the one ahead of it end. */
-        private int from(int line, int column) {
-            return column > 0 ? end(line, column - 1) : line * MOST_CELLS;
+        /** The first term of a cell of a line, the one behind the last term of the cell ahead of it. */
+        private int from(int cell) {
+            return cell % MOST_CELLS == 0 ? cell : end(cell - 1);
         }
 
-        private int end(int line, int column) {
-            if (line < 0 || line >= MOST_LINES || column < 0 || column >= cells[line]) {
-                return 0;
-            }
-            return ends[line * MOST_CELLS + column];
+        private int end(int cell) {
+            return cell >= 0 && cell < ends.length ? ends[cell] : 0;
         }
     }
 
@@ -1108,6 +1098,7 @@ public final class Outlinery {
         private final Reading[] readings = new Reading[MOST_LINES];
         private final int[] owners = new int[MOST_LINES];
         private final int[] heads = new int[MOST_LINES];
+        private final int[] levels = new int[MOST_LINES];
         private final int[] parents = new int[MOST_LINES];
         private final int[] tags = new int[MOST_LINES];
         private int count;
@@ -1143,6 +1134,7 @@ public final class Outlinery {
                 return;
             }
             heads[entry] = line;
+            levels[entry] = reading(line).level;
             count++;
             int parent = entry - 1;
             while (parent >= 0 && levelOf(parent) >= levelOf(entry)) {
@@ -1180,7 +1172,7 @@ public final class Outlinery {
         }
 
         private int levelOf(int entry) {
-            return reading(lineOf(entry)).level;
+            return entry >= 0 && entry < count ? levels[entry] : 0;
         }
 
         private int stateOf(int entry) {
@@ -1329,30 +1321,28 @@ public final class Outlinery {
             version = outline.version;
             findBlocks();
             findTops();
-            for (int i = 0; i < values.length; i++) {
-                values[i] = OPEN;
-            }
+            openCells();
             boolean goesOn = true;
             for (int i = 0; i < values.length && goesOn; i++) {
-                goesOn = settleSome();
+                goesOn = false;
+                for (int j = 0; j < values.length; j++) {
+                    if (values[j] == OPEN) {
+                        values[j] = sumOf(j);
+                        goesOn |= values[j] != OPEN;
+                    }
+                }
             }
             for (int i = 0; i < values.length; i++) {
                 values[i] = values[i] == OPEN ? ERROR : values[i];
             }
         }
 
-        private boolean settleSome() {
-            boolean some = false;
-            for (int i = 0; i < outline.text.count; i++) {
-                for (int j = 0; j < sums.cellsOf(i); j++) {
-                    int at = i * MOST_CELLS + j;
-                    if (at < values.length && values[at] == OPEN) {
-                        values[at] = sumOf(i, j);
-                        some |= values[at] != OPEN;
-                    }
-                }
+        private void openCells() {
+            for (int i = 0; i < values.length; i++) {
+                int line = i / MOST_CELLS;
+                boolean is = line < outline.text.count && i % MOST_CELLS < sums.cellsOf(line);
+                values[i] = is ? OPEN : ERROR;
             }
-            return some;
         }
 
         private void findBlocks() {
@@ -1379,23 +1369,24 @@ public final class Outlinery {
             }
         }
 
-        private int sumOf(int line, int column) {
-            int end = sums.end(line, column);
+        private int sumOf(int cell) {
+            int line = cell / MOST_CELLS;
+            int end = sums.end(cell);
             int value = 0;
-            for (int i = sums.from(line, column); i < end && i < values.length; i++) {
+            for (int i = sums.from(cell); i < end && value != ERROR; i++) {
                 int term = termOf(line, i);
                 if (term == OPEN || term == ERROR) {
                     return term;
                 }
-                value = joined(value, sums.joins[i], term);
-                if (value == ERROR) {
-                    return ERROR;
-                }
+                value = joined(value, sums.joinOf(i), term);
             }
             return value;
         }
 
         private int termOf(int line, int term) {
+            if (term < 0 || term >= values.length) {
+                return ERROR;
+            }
             int letter = sums.letters[term];
             int number = sums.numbers[term];
             switch (sums.kinds[term]) {
@@ -1431,7 +1422,7 @@ public final class Outlinery {
                 return ERROR;
             }
             int sum = 0;
-            for (int i = top; i < line; i++) {
+            for (int i = top; i < line && sum != ERROR; i++) {
                 if (!hasCell(i, column)) {
                     continue;
                 }
@@ -1440,9 +1431,6 @@ public final class Outlinery {
                     return value;
                 }
                 sum = joined(sum, '+', value);
-                if (sum == ERROR) {
-                    return ERROR;
-                }
             }
             return sum;
         }
@@ -1481,11 +1469,10 @@ public final class Outlinery {
         }
 
         private int valueAt(int line, int column) {
-            int at = line * MOST_CELLS + column;
-            if (line < 0 || column < 0 || column >= sums.cellsOf(line) || at >= values.length) {
+            if (line < 0 || line >= MOST_LINES || column < 0 || column >= MOST_CELLS) {
                 return ERROR;
             }
-            return values[at];
+            return values[line * MOST_CELLS + column];
         }
     }
 
