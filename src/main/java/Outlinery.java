@@ -39,7 +39,7 @@ public final class Outlinery {
     private final Export export;
     private final Kept kept;
     private final Archive store;
-    private int day;
+    private int todayIs;
     private int now;
 
     public Outlinery() {
@@ -307,7 +307,7 @@ public final class Outlinery {
             putState(entry, DONE);
             return;
         }
-        int next = date.nextDay(day);
+        int next = date.nextDay(todayIs);
         int last = next + date.last - date.first;
         if (last > MOST_NUMBER) {
             throw new IllegalStateException("A day would be above 9999.");
@@ -364,8 +364,8 @@ public final class Outlinery {
 
     public int today(int day) throws IllegalArgumentException {
         checkDay(day);
-        int before = this.day;
-        this.day = day;
+        int before = todayIs;
+        todayIs = day;
         return before;
     }
 
@@ -1328,7 +1328,7 @@ public final class Outlinery {
                 for (int j = 0; j < values.length; j++) {
                     if (values[j] == OPEN) {
                         values[j] = sumOf(j);
-                        goesOn |= values[j] != OPEN;
+                        goesOn = goesOn || values[j] != OPEN;
                     }
                 }
             }
@@ -1504,10 +1504,10 @@ public final class Outlinery {
         private void put(int from, int end, int more, int deep) {
             int goesOn = from;
             for (int i = from; i < end && out.hasRoom(1); i++) {
-                Reading reading = outline.reading(i);
                 if (i < goesOn) {
                     continue;
                 }
+                Reading reading = outline.reading(i);
                 if (reading.kind == HEADING && reading.state == DROP) {
                     goesOn = outline.partEnd(outline.ownerOf(i));
                 } else if (reading.kind == INCLUDE && deep < MOST_DEEP) {
