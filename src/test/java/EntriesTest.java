@@ -123,6 +123,9 @@ public final class EntriesTest {
         is.due("a copy ahead", 2, () -> x.refile(2, 0, true));
         is.dueLines("a copy ahead", x, "* a", "1", "** b", "** c", "*** a", "1", "**** b", "* c", "** a", "1", "*** b");
         Outlinery up = Checks.text("* a", "***** b", "*text", "* c");
+        is.due("a smaller part then", 8, () -> x.refile(7, 5, true));
+        is.dueLines("a smaller part then", x, "* a", "1", "** b", "** c", "*** a", "1", "**** b", "* c", "** a", "1",
+            "*** b", "** b");
         is.due("with less stars", 2, () -> up.refile(1, 2, false));
         is.dueLines("with less stars", up, "* a", "* c", "** b", "*text");
     }
@@ -139,6 +142,10 @@ public final class EntriesTest {
         is.noSuch("no other", () -> x.refile(0, -1, true));
         is.dueLines("nothing is changed", x, "* a", "** b", "*** c", "***** d", "* e", "** f");
         is.due("five stars", 4, () -> x.refile(4, 2, true));
+        Outlinery flat = Checks.text("* a", "** b", "* c");
+        is.cannot("below itself, with stars enough", () -> flat.refile(0, 1, true));
+        is.cannot("to itself, with stars enough", () -> flat.refile(0, 0, true));
+        is.due("to another one", 2, () -> flat.refile(2, 0, false));
         Outlinery big = Checks.text("* a", "** 456789012345678901234", "* c", "* 3456789012345678901234");
         is.cannot("25 signs", () -> big.refile(3, 0, false));
         is.cannot("25 signs below", () -> big.refile(0, 2, false));

@@ -13,6 +13,7 @@ public final class SheetTest {
         cellsOutOfRange();
         cellThrows();
         tables();
+        tablesThatChange();
         run();
         runErrors();
         runNeedsItself();
@@ -155,6 +156,23 @@ public final class SheetTest {
             "|1|2|#|4", "|1", "* a");
     }
 
+    private static void tablesThatChange() {
+        Outlinery x = Checks.text("* a", "|1|=a1+1|=b1+(k)", "{k}1+2+3", ":p:4");
+        for (int i = 3; i <= 9; i++) {
+            int want = 5 + i;
+            x.rub(2);
+            x.sign(2, (char) ('0' + i));
+            is.due("with another block", want, () -> x.cell(0, 0, 1, 2));
+        }
+        x.rub(1);
+        is.noSuch("a cell of a line that is TEXT", () -> x.cell(0, 0, 1, 0));
+        x.sign(1, ')');
+        is.due("a row again", 14, () -> x.cell(0, 0, 1, 2));
+        x.line(1);
+        Checks.write(x, 1, "|5");
+        is.due("with a row ahead", 6, () -> x.cell(0, 0, 2, 1));
+    }
+
     private static void run() {
         Outlinery x = Checks.text("{f}5*5", "{g}:p", "* a", ":p:7", "{k}:p*2+(m)", "{k}1", "** b", "{m}10-(n)", "{n}:p",
             ":p:4", "{o}0-9999");
@@ -267,6 +285,11 @@ public final class SheetTest {
         is.due("none", ERROR, () -> x.run(25));
         x.rub(x.lines() - 1);
         is.due("a letter without a block forgets, too", 9, () -> runsThen(x));
+        Outlinery many = Checks.text("* a", ":p:1", ":q:1", "* b", ":p:1", ":q:1", "* c", ":p:1", ":q:1", "{a}1");
+        is.due("one", 1, () -> runsThen(many));
+        is.due("ten lines are kept", 1, () -> runsThen(many));
+        many.sign(8, '0');
+        is.due("one of ten is another one", 2, () -> runsThen(many));
         Outlinery order = Checks.text("* a", ":p:1", ":q:1", "{a}1");
         is.due("one", 1, () -> runsThen(order));
         order.rub(2);
