@@ -5,13 +5,15 @@ import java.util.Random;
 /** Random runs of calls, each answer and each exception against those of the Model; the seeds are fixed. */
 public final class ModelTest {
     private static final int MOST_CALLS = 512;
+    private static final int MOST_PLAYED = 400;
     private static final int TABLES = 0, CODE = 1, DAYS = 2, EXPORT = 3, TREE = 4, ANY = 5, MODES = 6;
     private static final int[] EDGES = {-1, 0, 1, 2, 3, 8, 9, 23, 24, 25, 26, 59, 60, 61, 99, 100, 500, 501, 9999, 10000,
         Integer.MIN_VALUE, Integer.MAX_VALUE};
 
     private final Random random;
-    private final Outlinery x = new Outlinery();
+    private Outlinery x = new Outlinery();
     private final Model model = new Model();
+    private final List<Checks.Call> played = new ArrayList<>();
     /** The latest calls. */
     private final List<String> told = new ArrayList<>();
     private int calls;
@@ -26,7 +28,7 @@ public final class ModelTest {
     }
 
     public static void main(String[] args) {
-        int runs = args.length > 0 ? Integer.parseInt(args[0]) : 1500;
+        int runs = args.length > 0 ? Integer.parseInt(args[0]) : 1000;
         int from = args.length > 1 ? Integer.parseInt(args[1]) : 0;
         int wrong = 0;
         for (int seed = from; seed < from + runs && wrong < 3; seed++) {
@@ -44,10 +46,11 @@ public final class ModelTest {
     }
 
     private void due(String call, Checks.Call got, Checks.Call want) {
-        if (wrong || calls >= MOST_CALLS) {
+        if (wrong || calls >= MOST_PLAYED) {
             return;
         }
         calls++;
+        played.add(got);
         List<String> text = new ArrayList<>(model.text);
         Object wanted = Checks.told(want);
         Object answer = Checks.told(got);
@@ -63,14 +66,19 @@ public final class ModelTest {
 
     private void play() {
         int lines = 3 + below(random.nextInt(4) == 0 ? 36 : 16);
-        for (int i = 0; i < lines && calls < 330; i++) {
+        for (int i = 0; i < lines && calls < 240; i++) {
             put(anyLine());
         }
-        while (!wrong && calls < 400) {
+        while (!wrong && calls < 340) {
             anyCall();
         }
         askMuch();
-        readAll();
+        readLines("text", model.text, (line, place) -> x.signAt(line, place));
+        readLines("export", model.export(), (line, place) -> x.exportedAt(line, place));
+        for (int i = 0; i < model.lines(); i++) {
+            int line = i;
+            read("kind(" + i + ")", model.kind(i), () -> x.kind(line));
+        }
     }
 
     private int below(int bound) {
@@ -289,7 +297,7 @@ public final class ModelTest {
                 }
                 break;
             default:
-                due("renumber()", x::renumber, model::renumber);
+                due("renumber()", () -> x.renumber(), model::renumber);
                 break;
         }
     }
@@ -323,7 +331,7 @@ public final class ModelTest {
                 if (yes) {
                     due("archive(" + entry + ")", () -> x.archive(entry), () -> model.archive(entry));
                 } else {
-                    due("bringBack()", x::bringBack, model::bringBack);
+                    due("bringBack()", () -> x.bringBack(), model::bringBack);
                 }
                 break;
         }
@@ -380,7 +388,7 @@ public final class ModelTest {
                 break;
             case 7: case 8:
                 due("run(" + letter + ")", () -> x.run(letter), () -> model.run(letter));
-                due("runs()", x::runs, model::runs);
+                due("runs()", () -> x.runs(), model::runs);
                 break;
             case 9: case 10:
                 due("link(" + line + ", " + table + ")", () -> x.link(line, table), () -> model.link(line, table));
@@ -389,17 +397,17 @@ public final class ModelTest {
                 due("signAt(" + line + ", " + what + ")", () -> x.signAt(line, what), () -> model.signAt(line, what));
                 due("exportedAt(" + line + ", " + what + ")", () -> x.exportedAt(line, what),
                     () -> model.exportedAt(line, what));
-                due("exported()", x::exported, model::exported);
+                due("exported()", () -> x.exported(), model::exported);
                 due("kind(" + line + ")", () -> x.kind(line), () -> model.kind(line));
-                due("lines()", x::lines, model::lines);
-                due("entries()", x::entries, model::entries);
+                due("lines()", () -> x.lines(), model::lines);
+                due("entries()", () -> x.entries(), model::entries);
                 break;
         }
     }
 
     /** Asks one thing after the other, as many as there are calls left. */
     private void askMuch() {
-        for (int i = 0; i < 100 && calls < MOST_CALLS - 4; i++) {
+        for (int i = 0; i < 100 && calls < MOST_PLAYED - 10; i++) {
             int at = i;
             int entry = below(model.entries() + 1);
             int day = below(60);
@@ -414,7 +422,7 @@ public final class ModelTest {
                 case CODE:
                     due("run(" + "abkx".charAt(i % 4) + ")", () -> x.run("abkx".charAt(at % 4) - 'a'),
                         () -> model.run("abkx".charAt(at % 4) - 'a'));
-                    due("runs()", x::runs, model::runs);
+                    due("runs()", () -> x.runs(), model::runs);
                     break;
                 case DAYS:
                     due("agenda(" + day + ", 0, 0, " + i % 2 + ")", () -> x.agenda(day, 0, 0, at % 2),
@@ -428,42 +436,39 @@ public final class ModelTest {
         }
     }
 
-    /** The text and the export, read whole: in calls of their own, behind the last one that counts. */
-    private void readAll() {
-        calls = Math.min(calls, MOST_CALLS - 4);
-        due("the text", () -> Checks.linesOf(x), () -> model.text);
-        due("the export", () -> Checks.exportOf(x), model::export);
-        due("the kinds", () -> kinds(), () -> modelKinds());
-        due("the archive, brought back", () -> broughtBack(), () -> modelBroughtBack());
+    private interface Place {
+        char sign(int line, int place);
     }
 
-    private String kinds() {
-        StringBuilder kinds = new StringBuilder();
-        for (int i = 0; i < x.lines(); i++) {
-            kinds.append(x.kind(i));
+    /** Reads lines, a place behind the last sign of each, and a line that is not there. */
+    private void readLines(String what, List<String> want, Place got) {
+        for (int i = 0; i < want.size(); i++) {
+            int line = i;
+            String signs = want.get(i);
+            for (int j = 0; j <= signs.length(); j++) {
+                int place = j;
+                char due = j < signs.length() ? signs.charAt(j) : 0;
+                read(what + " " + i + ", " + j, due, () -> got.sign(line, place));
+            }
         }
-        return kinds.toString();
+        read(what + " behind", "IndexOutOfBoundsException", () -> got.sign(want.size(), 0));
     }
 
-    private String modelKinds() {
-        StringBuilder kinds = new StringBuilder();
-        for (String line : model.text) {
-            kinds.append(Model.kindOf(line));
+    /** Asks an object, a new one that was played likewise, when the calls of the one before are at an end. */
+    private void read(String what, Object want, Checks.Call got) {
+        if (wrong) {
+            return;
         }
-        return kinds.toString();
-    }
-
-    private Object broughtBack() {
-        for (int i = 0; i < 5 && !(Checks.told(x::bringBack) instanceof String); i++) {
-            continue;
+        if (calls >= MOST_CALLS) {
+            x = new Outlinery();
+            played.forEach(Checks::told);
+            calls = played.size();
         }
-        return Checks.linesOf(x);
-    }
-
-    private Object modelBroughtBack() {
-        for (int i = 0; i < 5 && !(Checks.told(model::bringBack) instanceof String); i++) {
-            continue;
+        calls++;
+        Object answer = Checks.told(got);
+        if (!want.equals(answer)) {
+            wrong = true;
+            told.add(what + ": " + answer + ", due is " + want + " with the text " + model.text);
         }
-        return model.text;
     }
 }
