@@ -20,6 +20,7 @@ public final class EntriesTest {
         archive();
         bringBack();
         bringBackUnderWhat();
+        largeParts();
         is.end();
     }
 
@@ -327,6 +328,42 @@ public final class EntriesTest {
         x.rub(2);
         is.due("60 lines", 0, x::bringBack);
         is.due("60 lines", 60, x::lines);
+    }
+
+    /** Puts an entry with a title of one sign, empty lines and one sign more in, and archives it. */
+    private static Object archived(Outlinery x, String sign, int lines) {
+        Checks.put(x, "* " + sign);
+        for (int i = 2; i < lines; i++) {
+            x.line(1);
+        }
+        Checks.put(x, sign);
+        return x.archive(0);
+    }
+
+    private static void largeParts() {
+        Outlinery x = new Outlinery();
+        for (int i = 0; i < 4; i++) {
+            int part = i;
+            is.due("a part of 10 lines", i + 1, () -> archived(x, part + "", 10));
+        }
+        is.due("a part of 60 lines", 5, () -> archived(x, "4", 60));
+        is.due("brought back", 4, x::bringBack);
+        is.due("60 lines", 60, x::lines);
+        is.due("the first line", '4', () -> x.signAt(0, 2));
+        is.due("the last line", '4', () -> x.signAt(59, 0));
+        is.cannot("ten more lines", x::bringBack);
+        for (int i = 0; i < 63; i++) {
+            x.rub(0);
+        }
+        is.due("a line is left", 1, x::lines);
+        for (int i = 3; i >= 0; i--) {
+            char sign = (char) ('0' + i);
+            int left = i;
+            int first = 1 + 10 * (3 - i);
+            is.due("brought back", left, x::bringBack);
+            is.due("the first line", sign, () -> x.signAt(first, 2));
+            is.due("the last line", sign, () -> x.signAt(first + 9, 0));
+        }
     }
 
     private static void bringBackUnderWhat() {

@@ -54,6 +54,10 @@ public final class ExportTest {
         is.due("nine", 9, all::renumber);
         is.dueLines("nine", all, "^1^2^3^4^5^6^7^8^9^55", "^92");
         is.due("none", 0, () -> Checks.text("* ^1", "^", "1^").renumber());
+        Outlinery exported = Checks.text("^5");
+        is.due("ahead of it", '5', () -> exported.exportedAt(0, 1));
+        exported.renumber();
+        is.due("behind it", '1', () -> exported.exportedAt(0, 1));
     }
 
     private static void exportOfLines() {

@@ -142,6 +142,9 @@ public final class LinesTest {
             is.due("state of heading " + i, states[i], () -> x.entry(entry, 3));
             is.due("tags of heading " + i, tags[i], () -> x.entry(entry, 6));
         }
+        Outlinery all = Checks.text("*  :a:b:c:d:e:f:g:h:i:j:", "* t :z:z:y:");
+        is.due("ten tags", 1023, () -> all.entry(0, 6));
+        is.due("a tag twice", 3 << 24, () -> all.entry(1, 6));
         is.dueExport("titles", x, "* t", "* :x:", "* ", "* TODO", "* a :x:", "* a :xy:", "* a ::", "* a :x", "* a x:",
             "* a :X:", "* DONE b");
     }
