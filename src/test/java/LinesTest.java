@@ -123,16 +123,9 @@ public final class LinesTest {
         is.due("a sign that is gone", (char) 0, () -> x.signAt(0, 2));
     }
 
-    private static void kinds(int want, String... lines) {
-        for (String line : lines) {
-            Outlinery x = Checks.text(line);
-            is.due("kind of '" + line + "'", want, () -> x.kind(0));
-        }
-    }
-
     private static void kindOfHeadings() {
-        kinds(Outlinery.HEADING, "* ", "* a", "***** a", "*  ", "* TODO", "* TODO ", "* TODO x :a:", "* :a:", "* * *");
-        kinds(Outlinery.TEXT, "", "*", "*a", "*****", "****** a", " * a", "**");
+        is.dueKinds(Outlinery.HEADING, "* ", "* a", "***** a", "*  ", "* TODO", "* TODO ", "* TODO x :a:", "* :a:", "* * *");
+        is.dueKinds(Outlinery.TEXT, "", "*", "*a", "*****", "****** a", " * a", "**");
         Outlinery x = Checks.text("* TODO t :x:y:", "* TODO :x:", "*  :x:", "* TODO", "* DROP  :z:", "* a :x: :y:",
             "* a :xy:", "* a ::", "* a :x", "* a x:", "* a :X:", "* WAIT DONE b");
         int[] states = {0, 0, -1, -1, 3, -1, -1, -1, -1, -1, -1, 1};
@@ -150,29 +143,29 @@ public final class LinesTest {
     }
 
     private static void kindOfTimes() {
-        kinds(Outlinery.PROPERTY, ":a:0", ":z:9999", ":o:1");
-        kinds(Outlinery.TEXT, ":a:", ":A:1", ":a:01", ":a:10000", ":a1", "a:1", ":a:1 ", ":a:-1", ":ab:1", ":a:00");
-        kinds(Outlinery.DATE, "@0", "@9999", "@5-5", "@5-6", "@5+1", "@5-7+9999", "@5+7+", "@5+7.", "@5-6+7.");
-        kinds(Outlinery.TEXT, "@", "@05", "@10000", "@5-4", "@5-", "@5+", "@5+0", "@5+7++", "@5+7-6", "@5.", "@5-6-7",
+        is.dueKinds(Outlinery.PROPERTY, ":a:0", ":z:9999", ":o:1");
+        is.dueKinds(Outlinery.TEXT, ":a:", ":A:1", ":a:01", ":a:10000", ":a1", "a:1", ":a:1 ", ":a:-1", ":ab:1", ":a:00");
+        is.dueKinds(Outlinery.DATE, "@0", "@9999", "@5-5", "@5-6", "@5+1", "@5-7+9999", "@5+7+", "@5+7.", "@5-6+7.");
+        is.dueKinds(Outlinery.TEXT, "@", "@05", "@10000", "@5-4", "@5-", "@5+", "@5+0", "@5+7++", "@5+7-6", "@5.", "@5-6-7",
             "@5+07", "@5+7..", "@-5", "@5 ");
-        kinds(Outlinery.CLOCK, "%0-", "%0-0", "%5-9999", "%9999-");
-        kinds(Outlinery.TEXT, "%", "%5", "%5-4", "%-5", "%5-05", "%5-6-", "%05-", "%5-10000", "%5--");
+        is.dueKinds(Outlinery.CLOCK, "%0-", "%0-0", "%5-9999", "%9999-");
+        is.dueKinds(Outlinery.TEXT, "%", "%5", "%5-4", "%-5", "%5-05", "%5-6-", "%05-", "%5-10000", "%5--");
     }
 
     private static void kindOfTables() {
-        kinds(Outlinery.ROW, "|1", "|-1", "|0|-0", "|=a1", "|=1", "|=a1+e9-Sa*(z)+:q-9999", "|=1+2+3+4+5+6",
+        is.dueKinds(Outlinery.ROW, "|1", "|-1", "|0|-0", "|=a1", "|=1", "|=a1+e9-Sa*(z)+:q-9999", "|=1+2+3+4+5+6",
             "|1|2|3|4|5|6|7|8|9|0|1|2", "|=Se", "|=(a)|=:a|7");
-        kinds(Outlinery.TEXT, "|", "||", "|1|", "|a1", "|=", "|=f1", "|=a0", "|=Sf", "|=(A)", "|=(a", "|=:A", "|=:",
+        is.dueKinds(Outlinery.TEXT, "|", "||", "|1|", "|a1", "|=", "|=f1", "|=a0", "|=Sf", "|=(A)", "|=(a", "|=:A", "|=:",
             "|=-1", "|--1", "|=1+", "|=+1", "|=1+2+3+4+5+6+7", "|=1/2", "|=a10", "|01", "|=01", "| 1", "|1 ", "|+1",
             "|=1++2", "|=a", "|=S", "|=()", "1|2", "|=1+2+3+4+5+6+", "|10000");
-        kinds(Outlinery.CODE, "{a}1", "{z}a1+Sb", "{k}(k)*:q-7", "{a}1+2+3+4+5+6");
-        kinds(Outlinery.TEXT, "{a}", "{A}1", "{a1", "a}1", "{}1", "{ab}1", "{a}=1", "{a}-1", "{a}1|2", "{a}1+2+3+4+5+6+7",
+        is.dueKinds(Outlinery.CODE, "{a}1", "{z}a1+Sb", "{k}(k)*:q-7", "{a}1+2+3+4+5+6");
+        is.dueKinds(Outlinery.TEXT, "{a}", "{A}1", "{a1", "a}1", "{}1", "{ab}1", "{a}=1", "{a}-1", "{a}1|2", "{a}1+2+3+4+5+6+7",
             "{a} 1");
     }
 
     private static void kindOfOthers() {
-        kinds(Outlinery.INCLUDE, "!a", "!z");
-        kinds(Outlinery.TEXT, "!", "!A", "!ab", "!1", " !a", "!a ", "a", "[a]^1", " ");
+        is.dueKinds(Outlinery.INCLUDE, "!a", "!z");
+        is.dueKinds(Outlinery.TEXT, "!", "!A", "!ab", "!1", " !a", "!a ", "a", "[a]^1", " ");
         Outlinery x = Checks.text("!a");
         is.noSuch("kind behind", () -> x.kind(1));
         is.noSuch("kind below", () -> x.kind(-1));
