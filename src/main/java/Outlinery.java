@@ -853,7 +853,7 @@ public final class Outlinery {
         }
 
         private boolean takeHeading(Reading reading) {
-            while (place <= MOST_STARS && take('*')) {
+            while (reading.level <= MOST_STARS && take('*')) {
                 reading.level++;
             }
             if (reading.level > MOST_STARS || !take(' ')) {

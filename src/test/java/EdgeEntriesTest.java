@@ -281,6 +281,9 @@ public final class EdgeEntriesTest {
         }
         is.due("without", 0, () -> x.property(0, 25, true));
         is.due("0 alone", 0, () -> Checks.text("* a", ":a:0").property(0, 0, true));
+        is.due("the first one of each alone", 50, () -> Checks.text("* a", ":a:10", ":a:1", "** b", ":a:40", ":a:2").property(0, 0,
+            true));
+        is.due("without that ahead of the first entry", 3, () -> Checks.text(":a:9", "* a", ":a:3").property(0, 0, true));
         Outlinery large = Checks.text("* a", ":z:9999");
         for (int i = 0; i < 12; i++) {
             Checks.put(large, "** b", ":z:9999");
@@ -375,6 +378,13 @@ public final class EdgeEntriesTest {
         is.dueLines("where it is", x, "ahead", "* c", "3", "** d", "4", "** a", "1", "*** b", "2");
         is.due("to one ahead, behind what is below it", 2, () -> x.refile(3, 1, false));
         is.dueLines("to one ahead", x, "ahead", "* c", "3", "** d", "4", "*** b", "2", "** a", "1");
+        Outlinery often = Checks.fill(Checks.text("* a", "x", "* b"), 3, 32);
+        for (int i = 0; i < 6; i++) {
+            is.due("30 lines, forth " + i, 1, () -> often.refile(1, 0, false));
+            is.due("one below, " + i, 1, () -> often.entry(0, 4));
+            is.due("30 lines, and less stars " + i, 2, () -> often.shift(1, false) + 1);
+            is.due("lines " + i, 32, often::lines);
+        }
         is.due("to one without other lines", 1, () -> {
             Outlinery y = Checks.text("* a", "* b");
             return y.refile(1, 0, false);
@@ -587,6 +597,8 @@ public final class EdgeEntriesTest {
         is.refused("WAIT ahead", Checks.CANNOT, () -> Checks.text("* a", ":o:1", "** WAIT b", "** c"), x -> x.state(2, 2));
         is.refused("TODO far ahead", Checks.CANNOT, () -> Checks.text("* a", ":o:1", "*** TODO b", "** DONE c", "*** d", "** e"),
             x -> x.state(4, 2));
+        is.refused("TODO as the second one ahead", Checks.CANNOT,
+            () -> Checks.text("* a", ":o:1", "** DONE b", "** TODO c", "** DONE d", "** e"), x -> x.state(4, 2));
         is.refused("inherited", Checks.CANNOT, () -> Checks.text("* a", ":o:1", "** b", "*** TODO c", "*** d"), x -> x.state(3, 2));
         is.refused("inherited over three", Checks.CANNOT,
             () -> Checks.text("* a", ":o:1", "** b", "*** c", "**** d", "***** WAIT e", "***** f"), x -> x.state(5, 2));
@@ -830,6 +842,20 @@ public final class EdgeEntriesTest {
         is.due("one is brought back", 4, x::bringBack);
         is.due("there is room for one again", 5, () -> x.archive(0));
         is.cannot("and not for two", () -> x.archive(0));
+        Outlinery large = new Outlinery();
+        for (int i = 0; i < 5; i++) {
+            Checks.put(large, "* " + i);
+            Checks.fill(large, 1, 60);
+            large.archive(0);
+        }
+        is.due("five of 60 lines, the last one", 64, () -> large.bringBack() + large.lines());
+        is.due("its title", '4', () -> large.signAt(0, 2));
+        is.due("its last line", (char) 0, () -> large.signAt(59, 0));
+        for (int i = 0; i < 63; i++) {
+            large.rub(0);
+        }
+        is.due("five of 60 lines, the one ahead of it", 63, () -> large.bringBack() + large.lines());
+        is.due("its title", '3', () -> large.signAt(0, 2));
         Outlinery refused = withArchived(4);
         Checks.put(refused, "* a", "** b", "* c", "** d");
         refused.archive(1);

@@ -154,6 +154,10 @@ public final class EdgeExportTest {
         Checks.write(x, 0, "^3");
         is.due("with one ahead", 3, x::renumber);
         is.dueLines("with one ahead", x, "^1", "^2^3", "^1");
+        Outlinery twice = Checks.text("^5");
+        is.due("in the export, ahead of it", '5', () -> twice.exportedAt(0, 1));
+        twice.renumber();
+        is.due("in the export, behind it", '1', () -> twice.exportedAt(0, 1));
         Outlinery full = Checks.fill(Checks.text("^5"), 0, 60);
         is.due("in line 59", 1, full::renumber);
         is.due("in line 59", '1', () -> full.signAt(59, 1));

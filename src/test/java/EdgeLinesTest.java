@@ -33,6 +33,8 @@ public final class EdgeLinesTest {
         kindOfNoLine();
         kindOfEachLine();
         linesAsAWhole();
+        linesThatGrow();
+        linesThatLoseWhatTheyHad();
         numbersHaveOneToFourDigits();
         headingsHaveOneToFiveStars();
         headingsHaveABlank();
@@ -369,6 +371,74 @@ public final class EdgeLinesTest {
         }
         is.dueKinds(7, " * a", "x* a", ":* a", "@* a", "|* a", "{* a", "!* a");
         is.dueKinds(0, "* :a:1", "* @5", "* |1", "* !a", "* {a}1", "* %1-");
+    }
+
+    /** What a line is while its signs come, one by one, and while they go. */
+    private static void dueKindsOf(String line, String kinds) {
+        Outlinery x = Checks.text("");
+        for (int i = 0; i < line.length(); i++) {
+            char sign = line.charAt(i);
+            int kind = kinds.charAt(i + 1) - '0';
+            x.sign(0, sign);
+            is.due("kind of '" + line.substring(0, i + 1) + "', which grows", kind, () -> x.kind(0));
+        }
+        for (int i = line.length() - 1; i >= 0; i--) {
+            int kind = kinds.charAt(i) - '0';
+            x.rub(0);
+            is.due("kind of '" + line.substring(0, i) + "', which shrinks", kind, () -> x.kind(0));
+        }
+    }
+
+    private static void linesThatGrow() {
+        is.promise(7, "Returns what a line is");
+        dueKindsOf("** TODO a :b:", "77700000000000");
+        dueKindsOf("****** a", "777777777");
+        dueKindsOf(":a:12345", "777711117");
+        dueKindsOf("@5-6+7+ ", "772727227");
+        dueKindsOf("@19-20+10.x", "772277272227");
+        dueKindsOf("%5-67-", "7773337");
+        dueKindsOf("|1|-23|=a1+Sb*7|", "77477447774774747");
+        dueKindsOf("{a}1+a1*(b)-:c", "777757757775775");
+        dueKindsOf("!ab", "7767");
+    }
+
+    private static void linesThatLoseWhatTheyHad() {
+        is.promise(7, "A line is the first of these that it is, as a whole");
+        Outlinery x = Checks.text("* TODO a :b:", "@5-6+7.", "%1-2", "|1|2|=a1+b1");
+        is.due("tags", B, () -> x.entry(0, 6));
+        is.due("a third cell", 3, () -> x.cell(0, 0, 1, 2));
+        is.due("a day that repeats", 0, () -> x.agenda(13, 0, 0, 0));
+        is.due("a clock", 1, () -> x.clocked(0));
+        x.rub(0);
+        x.rub(1);
+        x.rub(2);
+        x.rub(3);
+        is.due("tags that are gone", 0, () -> x.entry(0, 6));
+        is.dueExport("a title that grew", x, "* a :b", "|1|2|=a1+b");
+        is.due("a clock that runs then", 0, () -> x.clocked(0));
+        is.noSuch("a row that is gone", () -> x.cell(0, 0, 1, 0));
+        for (int i = 0; i < 6; i++) {
+            x.rub(3);
+        }
+        is.due("a row of two cells", 2, () -> x.cell(0, 0, 1, 1));
+        is.noSuch("a third cell that is gone", () -> x.cell(0, 0, 1, 2));
+        is.dueExport("two cells", x, "* a :b", "|1|2");
+        x.today(50);
+        is.due("a date without a mark", 0, () -> x.state(0, 2));
+        is.due("goes on once", 12, () -> x.entry(0, 7));
+        x.rub(1);
+        x.rub(1);
+        is.due("a date without a distance", -1, () -> x.agenda(20, 0, 0, 0));
+        is.due("its last day", 0, () -> x.agenda(13, 0, 0, 0));
+        is.due("does not repeat", 2, () -> x.state(0, 2));
+        x.state(0, 0);
+        for (int i = 0; i < 3; i++) {
+            x.rub(1);
+        }
+        is.due("a date without a last day", -1, () -> x.agenda(13, 0, 0, 0));
+        is.due("its day", 0, () -> x.agenda(12, 0, 0, 0));
+        x.state(0, -1);
+        is.due("a state that is gone", -1, () -> x.entry(0, 3));
     }
 
     /** Numbers in a line, where a "#" stands. */

@@ -170,6 +170,7 @@ public final class EdgeSheetTest {
         is.promise(23, "a cell is a number, \"-\" and a number, or \"=\" and a sum");
         due("numbers", "|0|1|9999", "|0|1|9999");
         due("below 0", "|0|-1|-9999", "|-0|-1|-9999");
+        is.dueExport("-1, 0 and 1", Checks.text("|-1|0|1|=0-1"), "|-1|0|1|-1");
         due("sums of one term", "|0|9999|0", "|=0|=9999|=a1");
     }
 
@@ -218,6 +219,8 @@ public final class EdgeSheetTest {
         due("one without it", "|1|5 |2 |3|6 |11", "|1|5", "|2", "|3|6", "|=Sb");
         due("all without it", "|1 |2 |0", "|1", "|2", "|=Sb");
         due("all without it, e", "|1 |0", "|1", "|=Se");
+        due("one ahead that needs one behind", "|5 |5 |5", "|=a3", "|=Sa", "|5");
+        due("some ahead that need some behind", "|9|1 |8|9 |17|10 |8|1", "|=a2+b1|=b4", "|=a4|=a1", "|=Sa|=Sb", "|8|1");
     }
 
     private static void propertiesOfTheEntry() {
@@ -250,6 +253,9 @@ public final class EdgeSheetTest {
         due("the last column", "|1|1", "|1|=a1");
         due("a row more", "|1|#", "|1|=a2");
         due("row 9", "|#", "|=a9");
+        due("a row behind a line between", "|1|#", "|1|=a3", "", "|5");
+        due("a line of code where a row would be", "|1|#", "|1|=a2", "{k}5");
+        due("a row of another entry", "|1|#", "|1|=a3", "* b", "|5");
         due("a column of a shorter row", "|1|2|# |1", "|1|2|=b2", "|1");
         is.due("ERROR is", 1000000, () -> Checks.text("* a", "|=a9").cell(0, 0, 1, 0));
     }
@@ -513,7 +519,7 @@ public final class EdgeSheetTest {
 
     private static void linesThatAreAsTheyWere() {
         is.promise(24, "as long as all lines of the text that are CODE, PROPERTY or HEADING are as they were ... it is not run again");
-        Outlinery x = Checks.text("* TODO a", ":a:1", "{a}:a", "x", "|1", "@1+1.", "%1-", "!a");
+        Outlinery x = Checks.text("* TODO a", ":a:1", "{a}:a", "x", "|1", "@1+1", "%1-", "!a");
         is.due("at first", "1, runs 1", () -> runThen(x, 0));
         x.sign(3, 'x');
         is.due("another TEXT", "1, runs 1", () -> runThen(x, 0));
