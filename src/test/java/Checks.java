@@ -96,15 +96,19 @@ final class Checks {
         List<String> lines = new ArrayList<>();
         int count = x.exported();
         for (int i = 0; i < count; i++) {
-            StringBuilder signs = new StringBuilder();
-            char sign = x.exportedAt(i, 0);
-            for (int j = 1; sign != 0 && j < MANY; j++) {
-                signs.append(sign);
-                sign = x.exportedAt(i, j);
-            }
-            lines.add(signs.toString());
+            lines.add(exportedLine(x, i));
         }
         return lines;
+    }
+
+    static String exportedLine(Outlinery x, int line) {
+        StringBuilder signs = new StringBuilder();
+        char sign = x.exportedAt(line, 0);
+        for (int i = 1; sign != 0 && i < MANY; i++) {
+            signs.append(sign);
+            sign = x.exportedAt(line, i);
+        }
+        return signs.toString();
     }
 
     /** What is kept of all blocks, and how often they were run. */
